@@ -53,7 +53,8 @@ public final class LabelNet {
         if (!isLink(a, b)) {
             return false;
         }
-        putLink(a, b, linkCosts[place(a, b)], up);
+        int cost = linkCosts[place(a, b)];
+        putLink(a, b, cost, up);
         findRoutes();
         return true;
     }
