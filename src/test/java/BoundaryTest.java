@@ -4,7 +4,8 @@ import java.util.function.ToIntFunction;
 
 /**
  * Each sentence of the document that names a boundary case has a method of its own here, which begins with the
- * sentence. No object is called more than 512 times, as the document promises nothing after that.
+ * sentence; what follows a colon in it tells the case that is meant. No object is called more than 512 times, as the
+ * document promises nothing after that.
  */
 public final class BoundaryTest {
     private static final int ROUTERS = 7;
@@ -17,6 +18,11 @@ public final class BoundaryTest {
     private static final int[] NOT_ROUTERS = {-1, 7, LEAST, GREATEST, 8, -7, 32, 49, 256, 65536, 613566757};
     private static final int[] NOT_COSTS = {0, 10, -1, LEAST, GREATEST, 17, 257, 65537};
     private static final int[] BELOW_0 = {-1, -2, -7, LEAST, LEAST + 1};
+
+    // For k and n, where there is no distance: within a route, beside it, and far from it.
+    private static final int[] NUMBERS = {0, 1, -1, LEAST, GREATEST};
+    // In a net of 0 - 1 and 2 - 3 with router 3 down.
+    private static final int[][] WITH_NO_DISTANCE = {{0, 2}, {2, 3}, {3, 2}, {3, 3}};
 
     private static int wrong = 0;
     private static String sentence = "";
@@ -436,7 +442,7 @@ public final class BoundaryTest {
     }
 
     private static void longestRoute() {
-        of("Terms", "the longest route that seven routers allow");
+        of("Terms", "and so on up to d: the longest route that seven routers allow");
         int[][] orders = {{0, 1, 2, 3, 4, 5, 6}, {6, 5, 4, 3, 2, 1, 0}, {3, 0, 6, 1, 5, 2, 4}, {5, 1, 4, 0, 3, 6, 2}};
         for (int[] order : orders) {
             LabelNet net = line(9, order);
@@ -456,6 +462,12 @@ public final class BoundaryTest {
     // ---- Promise 1
 
     private static void newObject() {
+        newObjectHasNoLinks();
+        newObjectHasAllRoutersUp();
+        noObjectSeesAnother();
+    }
+
+    private static void newObjectHasNoLinks() {
         of("1", "No links");
         LabelNet net = new LabelNet();
         for (int a = 0; a < ROUTERS; a++) {
@@ -468,19 +480,21 @@ public final class BoundaryTest {
                 due(call("linkLoad", a, b), net.linkLoad(a, b), 0);
             }
         }
+    }
+
+    private static void newObjectHasAllRoutersUp() {
         of("1", "all routers are up");
-        LabelNet alone = new LabelNet();
+        LabelNet net = new LabelNet();
         for (int r = 0; r < ROUTERS; r++) {
-            due(call("distance", r, r), alone.distance(r, r), 0);
-            due(call("farthest", r), alone.farthest(r), 0);
-            due(call("reachable", r), alone.reachable(r), 0);
-            due(call("load", r), alone.load(r), 0);
+            due(call("distance", r, r), net.distance(r, r), 0);
+            due(call("farthest", r), net.farthest(r), 0);
+            due(call("reachable", r), net.reachable(r), 0);
+            due(call("load", r), net.load(r), 0);
         }
-        noObjectSeesAnother();
     }
 
     private static void noObjectSeesAnother() {
-        of("1", "a new object, beside one that is used");
+        of("1", "No links; all routers are up: also beside an object that is used");
         LabelNet first = new LabelNet();
         first.join(0, 1, 1);
         first.setRouter(2, false);
@@ -811,6 +825,12 @@ public final class BoundaryTest {
     // ---- Promise 6
 
     private static void cost() {
+        costUpOrDown();
+        costOfNoLink();
+        costOutsideTheRouters();
+    }
+
+    private static void costUpOrDown() {
         of("6", "whether it is up or down");
         for (int which = 0; which < 8; which++) {
             LabelNet net = net(0, 6, 9, 6, 5, 1);
@@ -821,8 +841,6 @@ public final class BoundaryTest {
             due("cost(6, 0), ups " + which, net.cost(6, 0), 9);
             due("cost(5, 6), ups " + which, net.cost(5, 6), 1);
         }
-        costOfNoLink();
-        costOutsideTheRouters();
     }
 
     private static void costOfNoLink() {
@@ -866,6 +884,12 @@ public final class BoundaryTest {
     // ---- Promise 7
 
     private static void distance() {
+        distanceWithNoWay();
+        distanceOfARouterThatIsDown();
+        distanceOutsideTheRouters();
+    }
+
+    private static void distanceWithNoWay() {
         of("7", "NONE when there is none: no way");
         LabelNet net = net(0, 1, 1, 2, 3, 1);
         due("distance(0, 2)", net.distance(0, 2), -1);
@@ -873,7 +897,11 @@ public final class BoundaryTest {
         due("distance(0, 6)", net.distance(0, 6), -1);
         net.join(1, 2, 1);
         due("distance(0, 3) when there is one", net.distance(0, 3), 3);
+    }
+
+    private static void distanceOfARouterThatIsDown() {
         of("7", "NONE when there is none: s or d is down");
+        LabelNet net = line(1, 0, 1, 2, 3);
         net.setRouter(0, false);
         due("distance(0, 3)", net.distance(0, 3), -1);
         due("distance(3, 0)", net.distance(3, 0), -1);
@@ -881,13 +909,22 @@ public final class BoundaryTest {
         due("distance(1, 0)", net.distance(1, 0), -1);
         due("distance(0, 0)", net.distance(0, 0), -1);
         due("distance(1, 3), both up", net.distance(1, 3), 2);
+    }
+
+    private static void distanceOutsideTheRouters() {
         of("7", "NONE when s or d is not 0 .. 6");
-        noneOutside("distance", (asked, pair) -> asked.distance(pair[0], pair[1]), -1);
+        noneOutside("distance", (net, pair) -> net.distance(pair[0], pair[1]), -1);
     }
 
     // ---- Promise 8
 
     private static void nextHop() {
+        nextHopWithNoDistance();
+        nextHopToItself();
+        nextHopOutsideTheRouters();
+    }
+
+    private static void nextHopWithNoDistance() {
         of("8", "NONE when there is none");
         LabelNet net = net(0, 1, 1, 2, 3, 1, 3, 4, 1);
         due("nextHop(0, 2), no way", net.nextHop(0, 2), -1);
@@ -899,6 +936,9 @@ public final class BoundaryTest {
         due("nextHop(2, 3), a neighbour", net.nextHop(2, 3), 3);
         net.setLink(2, 3, false);
         due("nextHop(2, 3), the link down", net.nextHop(2, 3), -1);
+    }
+
+    private static void nextHopToItself() {
         of("8", "NONE also when s = d");
         LabelNet ring = line(1, 0, 1, 2, 3, 4, 5, 6, 0);
         for (int r = 0; r < ROUTERS; r++) {
@@ -907,13 +947,23 @@ public final class BoundaryTest {
         }
         ring.setRouter(0, false);
         due("nextHop(0, 0), down", ring.nextHop(0, 0), -1);
+    }
+
+    private static void nextHopOutsideTheRouters() {
         of("8", "NONE when s or d is not 0 .. 6");
-        noneOutside("nextHop", (asked, pair) -> asked.nextHop(pair[0], pair[1]), -1);
+        noneOutside("nextHop", (net, pair) -> net.nextHop(pair[0], pair[1]), -1);
     }
 
     // ---- Promise 9
 
     private static void hops() {
+        hopsOfTheRoute();
+        hopsToItself();
+        hopsWithNoDistance();
+        hopsOutsideTheRouters();
+    }
+
+    private static void hopsOfTheRoute() {
         of("9", "The number of links of the route from s to d");
         LabelNet line = wholeLine();
         for (int s = 0; s < ROUTERS; s++) {
@@ -922,6 +972,9 @@ public final class BoundaryTest {
             }
         }
         due("hops(0, 2), of the least cost, not of the fewest links", net(0, 2, 3, 0, 1, 1, 1, 2, 1).hops(0, 2), 2);
+    }
+
+    private static void hopsToItself() {
         of("9", "0 when s = d and s is up");
         for (int r = 0; r < ROUTERS; r++) {
             LabelNet net = star(r);
@@ -929,38 +982,54 @@ public final class BoundaryTest {
             net.setRouter(r, false);
             due(call("hops", r, r) + " down", net.hops(r, r), -1);
         }
+    }
+
+    private static void hopsWithNoDistance() {
         of("9", "NONE when there is no distance");
         LabelNet net = net(0, 1, 1, 2, 3, 1);
         due("hops(0, 2), no way", net.hops(0, 2), -1);
         net.setRouter(3, false);
         due("hops(2, 3), d down", net.hops(2, 3), -1);
         due("hops(3, 2), s down", net.hops(3, 2), -1);
+    }
+
+    private static void hopsOutsideTheRouters() {
         of("9", "NONE when s or d is not 0 .. 6");
-        noneOutside("hops", (asked, pair) -> asked.hops(pair[0], pair[1]), -1);
+        noneOutside("hops", (net, pair) -> net.hops(pair[0], pair[1]), -1);
     }
 
     // ---- Promise 10
 
     private static void routeAt() {
+        routeAt0();
+        routeAtOutsideTheRoute();
+        routeAtWithNoDistance();
+        routeAtOutsideTheRouters();
+    }
+
+    private static void routeAt0() {
         of("10", "Router number k of the route (0 is s)");
         for (int r = 0; r < ROUTERS; r++) {
             due(call("routeAt", r, r, 0), new LabelNet().routeAt(r, r, 0), r);
             due(call("routeAt", r, 6 - r, 0), wholeLine().routeAt(r, 6 - r, 0), r);
         }
-        routeAtOutsideTheRoute();
+    }
+
+    private static void routeAtWithNoDistance() {
         of("10", "NONE when there is no distance");
         LabelNet net = net(0, 1, 1, 2, 3, 1);
         net.setRouter(3, false);
-        int[][] pairs = {{0, 2}, {2, 3}, {3, 2}, {3, 3}};
-        int[] numbers = {0, 1, -1, LEAST, GREATEST};
-        for (int[] pair : pairs) {
-            for (int k : numbers) {
+        for (int[] pair : WITH_NO_DISTANCE) {
+            for (int k : NUMBERS) {
                 due(call("routeAt", pair[0], pair[1], k), net.routeAt(pair[0], pair[1], k), -1);
             }
         }
+    }
+
+    private static void routeAtOutsideTheRouters() {
         of("10", "NONE when s or d is not 0 .. 6");
-        for (int k : numbers) {
-            noneOutside("routeAt .. " + k, (asked, pair) -> asked.routeAt(pair[0], pair[1], k), -1);
+        for (int k : NUMBERS) {
+            noneOutside("routeAt .. " + k, (net, pair) -> net.routeAt(pair[0], pair[1], k), -1);
         }
     }
 
@@ -987,19 +1056,25 @@ public final class BoundaryTest {
     private static void after() {
         afterBelow0();
         afterTheWholeRoute();
+        afterWithNoDistance();
+        afterOutsideTheRouters();
+    }
+
+    private static void afterWithNoDistance() {
         of("11", "NONE when there is no distance");
         LabelNet net = net(0, 1, 1, 2, 3, 1);
         net.setRouter(3, false);
-        int[][] pairs = {{0, 2}, {2, 3}, {3, 2}, {3, 3}};
-        int[] numbers = {0, 1, -1, LEAST, GREATEST};
-        for (int[] pair : pairs) {
-            for (int n : numbers) {
+        for (int[] pair : WITH_NO_DISTANCE) {
+            for (int n : NUMBERS) {
                 due(call("after", pair[0], pair[1], n), net.after(pair[0], pair[1], n), -1);
             }
         }
+    }
+
+    private static void afterOutsideTheRouters() {
         of("11", "NONE when s or d is not 0 .. 6");
-        for (int n : numbers) {
-            noneOutside("after .. " + n, (asked, pair) -> asked.after(pair[0], pair[1], n), -1);
+        for (int n : NUMBERS) {
+            noneOutside("after .. " + n, (net, pair) -> net.after(pair[0], pair[1], n), -1);
         }
     }
 
@@ -1038,6 +1113,12 @@ public final class BoundaryTest {
     // ---- Promise 12
 
     private static void load() {
+        loadWithoutTheEnds();
+        loadOfTheRoute();
+        loadOutsideTheRouters();
+    }
+
+    private static void loadWithoutTheEnds() {
         of("12", "pairs (s, d) of different routers, neither of them r");
         for (int centre = 0; centre < ROUTERS; centre++) {
             LabelNet net = star(centre);
@@ -1049,15 +1130,21 @@ public final class BoundaryTest {
         due("load(0) of one link", two.load(0), 0);
         due("load(6) of one link", two.load(6), 0);
         due("load(0) without links", new LabelNet().load(0), 0);
+    }
+
+    private static void loadOfTheRoute() {
         of("12", "whose route comes through r");
-        LabelNet oneWay = net(0, 1, 1, 1, 2, 1, 0, 2, 2);
-        due("load(1), which is on the route there alone", oneWay.load(1), 1);
-        oneWay.join(0, 2, 1);
-        due("load(1), which is on neither route", oneWay.load(1), 0);
-        oneWay.join(0, 2, 3);
-        due("load(1), which is on both routes", oneWay.load(1), 2);
-        oneWay.setRouter(1, false);
-        due("load(1), which is down", oneWay.load(1), 0);
+        LabelNet net = net(0, 1, 1, 1, 2, 1, 0, 2, 2);
+        due("load(1), which is on the route there alone", net.load(1), 1);
+        net.join(0, 2, 1);
+        due("load(1), which is on neither route", net.load(1), 0);
+        net.join(0, 2, 3);
+        due("load(1), which is on both routes", net.load(1), 2);
+        net.setRouter(1, false);
+        due("load(1), which is down", net.load(1), 0);
+    }
+
+    private static void loadOutsideTheRouters() {
         of("12", "0 when r is not 0 .. 6");
         for (int r : NOT_ROUTERS) {
             for (int centre = 0; centre < ROUTERS; centre++) {
@@ -1069,16 +1156,33 @@ public final class BoundaryTest {
     // ---- Promise 13
 
     private static void linkLoad() {
+        linkLoadInEitherDirection();
+        linkLoadOfNeighboursOnTheRoute();
+        linkLoadOfNoLink();
+        linkLoadOfWhatDoesNotCount();
+    }
+
+    private static void linkLoadInEitherDirection() {
         of("13", "goes along the link between a and b in either direction");
-        LabelNet oneWay = net(0, 1, 1, 1, 2, 1, 0, 2, 2);
+        LabelNet net = net(0, 1, 1, 1, 2, 1, 0, 2, 2);
         int[][] loads = {{0, 1, 3}, {1, 2, 3}, {0, 2, 1}};
         for (int[] load : loads) {
-            due(call("linkLoad", load[0], load[1]), oneWay.linkLoad(load[0], load[1]), load[2]);
-            due(call("linkLoad", load[1], load[0]), oneWay.linkLoad(load[1], load[0]), load[2]);
+            due(call("linkLoad", load[0], load[1]), net.linkLoad(load[0], load[1]), load[2]);
+            due(call("linkLoad", load[1], load[0]), net.linkLoad(load[1], load[0]), load[2]);
         }
         due("linkLoad(2, 3), the greatest", wholeLine().linkLoad(2, 3), 24);
         due("linkLoad(6, 5), at the end", wholeLine().linkLoad(6, 5), 12);
-        linkLoadOfNeighboursOnTheRoute();
+    }
+
+    /** Both routers of the link lie on the route, but the route does not go along the link. */
+    private static void linkLoadOfNeighboursOnTheRoute() {
+        of("13", "whose route goes along the link");
+        LabelNet net = net(0, 1, 1, 1, 2, 1, 0, 2, 9);
+        due("linkLoad(0, 2), which no route takes", net.linkLoad(0, 2), 0);
+        due("linkLoad(2, 0), which no route takes", net.linkLoad(2, 0), 0);
+    }
+
+    private static void linkLoadOfNoLink() {
         of("13", "0 when there is none");
         LabelNet line = wholeLine();
         due("linkLoad(0, 2), whose routers are joined by a way", line.linkLoad(0, 2), 0);
@@ -1086,15 +1190,7 @@ public final class BoundaryTest {
         for (int r = 0; r < ROUTERS; r++) {
             due(call("linkLoad", r, r), line.linkLoad(r, r), 0);
         }
-        noneOutside("linkLoad", (asked, pair) -> asked.linkLoad(pair[0], pair[1]), 0);
-        linkLoadOfWhatDoesNotCount();
-    }
-
-    /** Both routers of the link lie on the route, but the route does not go along the link. */
-    private static void linkLoadOfNeighboursOnTheRoute() {
-        LabelNet net = net(0, 1, 1, 1, 2, 1, 0, 2, 9);
-        due("linkLoad(0, 2), which no route takes", net.linkLoad(0, 2), 0);
-        due("linkLoad(2, 0), which no route takes", net.linkLoad(2, 0), 0);
+        noneOutside("linkLoad", (net, pair) -> net.linkLoad(pair[0], pair[1]), 0);
     }
 
     private static void linkLoadOfWhatDoesNotCount() {
@@ -1112,6 +1208,12 @@ public final class BoundaryTest {
     // ---- Promise 14
 
     private static void reachable() {
+        reachableOtherThanItself();
+        reachableByADistance();
+        reachableOutsideTheRouters();
+    }
+
+    private static void reachableOtherThanItself() {
         of("14", "other than s: bit d for router d");
         for (int s = 0; s < ROUTERS; s++) {
             due(call("reachable", s) + " without links", new LabelNet().reachable(s), 0);
@@ -1120,6 +1222,9 @@ public final class BoundaryTest {
                 due(call("reachable", s) + " with a link to " + d, net(s, d, 9).reachable(s), s == d ? 0 : 1 << d);
             }
         }
+    }
+
+    private static void reachableByADistance() {
         of("14", "to which there is a distance from s");
         for (int r = 0; r < ROUTERS; r++) {
             LabelNet net = wholeLine();
@@ -1127,6 +1232,9 @@ public final class BoundaryTest {
             due("reachable(0) without router " + r, net.reachable(0), r == 0 ? 0 : (1 << r) - 2);
             due(call("reachable", r) + " down", net.reachable(r), 0);
         }
+    }
+
+    private static void reachableOutsideTheRouters() {
         of("14", "0 when s is not 0 .. 6");
         for (int s : NOT_ROUTERS) {
             due(call("reachable", s), full().reachable(s), 0);
@@ -1137,6 +1245,12 @@ public final class BoundaryTest {
     // ---- Promise 15
 
     private static void farthest() {
+        farthestThatHasADistance();
+        farthestFromARouterThatIsDown();
+        farthestOutsideTheRouters();
+    }
+
+    private static void farthestThatHasADistance() {
         of("15", "The greatest distance from s to a router that has one");
         due("farthest(0), the greatest there is", line(9, 0, 1, 2, 3, 4, 5, 6).farthest(0), 54);
         due("farthest(3), both ways alike", wholeLine().farthest(3), 3);
@@ -1147,6 +1261,9 @@ public final class BoundaryTest {
                 due(call("farthest", s) + " with a link to " + d, net(s, d, 7).farthest(s), s == d ? 0 : 7);
             }
         }
+    }
+
+    private static void farthestFromARouterThatIsDown() {
         of("15", "NONE when s is down");
         for (int s = 0; s < ROUTERS; s++) {
             LabelNet net = wholeLine();
@@ -1156,6 +1273,9 @@ public final class BoundaryTest {
             alone.setRouter(s, false);
             due(call("farthest", s) + " without links", alone.farthest(s), -1);
         }
+    }
+
+    private static void farthestOutsideTheRouters() {
         of("15", "NONE when s is not 0 .. 6");
         for (int s : NOT_ROUTERS) {
             due(call("farthest", s), full().farthest(s), -1);
@@ -1172,6 +1292,12 @@ public final class BoundaryTest {
         routesChangeAtEqualCost();
         routesChangeByOneRouter();
         impactOfWhatDoesNotCount();
+        impactOfNoLink();
+        impactChangesNothing();
+        impactIsTheLoadOfTheLink();
+    }
+
+    private static void impactOfNoLink() {
         of("16", "0 when there is none");
         LabelNet line = wholeLine();
         due("impact(0, 6)", line.impact(0, 6), 0);
@@ -1181,9 +1307,7 @@ public final class BoundaryTest {
         }
         line.cut(2, 3);
         due("impact(2, 3) after the cut", line.impact(2, 3), 0);
-        noneOutside("impact", (asked, pair) -> asked.impact(pair[0], pair[1]), 0);
-        impactChangesNothing();
-        impactIsTheLoadOfTheLink();
+        noneOutside("impact", (net, pair) -> net.impact(pair[0], pair[1]), 0);
     }
 
     private static void routesDisappear() {
