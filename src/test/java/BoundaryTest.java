@@ -190,7 +190,9 @@ public final class BoundaryTest {
         lastCallAfterJoins();
         lastCallAfterCuts();
         lastCallAfterTurns();
+        lastCallOfEachChange();
         lastCallOfQuestions();
+        lastCallOfQuestionsToANewObject();
     }
 
     private static void lastCallAfterJoins() {
@@ -231,23 +233,55 @@ public final class BoundaryTest {
         due("distance(0, 1) as call 512, after setRouter", routers.distance(0, 1), 5);
     }
 
-    private static void lastCallOfQuestions() {
-        lastCall("cost(2, 3)", net -> net.cost(2, 3), 1);
-        lastCall("distance(0, 6)", net -> net.distance(0, 6), 6);
-        lastCall("nextHop(6, 0)", net -> net.nextHop(6, 0), 5);
-        lastCall("hops(0, 6)", net -> net.hops(0, 6), 6);
-        lastCall("routeAt(0, 6, 4)", net -> net.routeAt(0, 6, 4), 4);
-        lastCall("after(0, 6, 9)", net -> net.after(0, 6, 9), 6);
-        lastCall("load(3)", net -> net.load(3), 18);
-        lastCall("linkLoad(2, 3)", net -> net.linkLoad(2, 3), 24);
-        lastCall("reachable(3)", net -> net.reachable(3), 119);
-        lastCall("farthest(3)", net -> net.farthest(3), 3);
-        lastCall("impact(3, 2)", net -> net.impact(3, 2), 24);
+    /** Each of the 512 calls is the same one; setLink needs a link, and so one call before. */
+    private static void lastCallOfEachChange() {
+        LabelNet joins = new LabelNet();
+        LabelNet routers = new LabelNet();
+        LabelNet links = net(0, 1, 5);
+        for (int i = 1; i <= LAST_CALL; i++) {
+            due("join as call " + i, joins.join(0, 1, 5), true);
+            due("setRouter as call " + i, routers.setRouter(0, true), true);
+        }
+        for (int i = 2; i <= LAST_CALL; i++) {
+            due("setLink as call " + i, links.setLink(0, 1, true), true);
+        }
     }
 
-    private static void lastCall(String call, ToIntFunction<LabelNet> question, int want) {
-        LabelNet net = wholeLine();
-        for (int i = ROUTERS; i <= LAST_CALL; i++) {
+    private static void lastCallOfQuestions() {
+        askTillTheLastCall("cost(2, 3)", net -> net.cost(2, 3), 1);
+        askTillTheLastCall("distance(0, 6)", net -> net.distance(0, 6), 6);
+        askTillTheLastCall("nextHop(6, 0)", net -> net.nextHop(6, 0), 5);
+        askTillTheLastCall("hops(0, 6)", net -> net.hops(0, 6), 6);
+        askTillTheLastCall("routeAt(0, 6, 4)", net -> net.routeAt(0, 6, 4), 4);
+        askTillTheLastCall("after(0, 6, 9)", net -> net.after(0, 6, 9), 6);
+        askTillTheLastCall("load(3)", net -> net.load(3), 18);
+        askTillTheLastCall("linkLoad(2, 3)", net -> net.linkLoad(2, 3), 24);
+        askTillTheLastCall("reachable(3)", net -> net.reachable(3), 119);
+        askTillTheLastCall("farthest(3)", net -> net.farthest(3), 3);
+        askTillTheLastCall("impact(3, 2)", net -> net.impact(3, 2), 24);
+    }
+
+    private static void askTillTheLastCall(String call, ToIntFunction<LabelNet> question, int want) {
+        // The line takes six calls.
+        ask(wholeLine(), 7, call, question, want);
+    }
+
+    private static void lastCallOfQuestionsToANewObject() {
+        ask(new LabelNet(), 1, "cost(2, 3)", net -> net.cost(2, 3), -1);
+        ask(new LabelNet(), 1, "distance(6, 6)", net -> net.distance(6, 6), 0);
+        ask(new LabelNet(), 1, "nextHop(6, 0)", net -> net.nextHop(6, 0), -1);
+        ask(new LabelNet(), 1, "hops(6, 6)", net -> net.hops(6, 6), 0);
+        ask(new LabelNet(), 1, "routeAt(6, 6, 0)", net -> net.routeAt(6, 6, 0), 6);
+        ask(new LabelNet(), 1, "after(6, 6, 9)", net -> net.after(6, 6, 9), 6);
+        ask(new LabelNet(), 1, "load(3)", net -> net.load(3), 0);
+        ask(new LabelNet(), 1, "linkLoad(2, 3)", net -> net.linkLoad(2, 3), 0);
+        ask(new LabelNet(), 1, "reachable(3)", net -> net.reachable(3), 0);
+        ask(new LabelNet(), 1, "farthest(3)", net -> net.farthest(3), 0);
+        ask(new LabelNet(), 1, "impact(3, 2)", net -> net.impact(3, 2), 0);
+    }
+
+    private static void ask(LabelNet net, int first, String call, ToIntFunction<LabelNet> question, int want) {
+        for (int i = first; i <= LAST_CALL; i++) {
             due(call + " as call " + i, question.applyAsInt(net), want);
         }
     }
